@@ -16,7 +16,7 @@ public final class CutMarks {
     private final char[] pad = new char[PAD_LENGTH];
     private int padLength = 0;
     private int undoable = 0;
-    private int nextRecord = 0;
+    private int nextKept = 0;
 
     public CutMarks() {
     }
@@ -28,7 +28,7 @@ public final class CutMarks {
             return BAD_VALUE;
         }
         int previous = table.size;
-        record();
+        keepForUndo();
         table.layInOrder(value);
         return previous;
     }
@@ -69,7 +69,7 @@ public final class CutMarks {
         if (!table.hasMark(mark)) {
             return NO_SUCH;
         }
-        record();
+        keepForUndo();
         table.removeMark(mark);
         return table.markCount;
     }
@@ -101,7 +101,7 @@ public final class CutMarks {
 
     public int restart() {
         int moved = placesMoved();
-        record();
+        keepForUndo();
         table.trick = Moves.STAY;
         return moved;
     }
@@ -201,7 +201,7 @@ public final class CutMarks {
 
     public int share() {
         int inPlace = Integer.bitCount(Moves.fixedPlaces(table.places, table.size));
-        return Bits.ofFloat(table.size > 0 ? (float) inPlace / (float) table.size : 0.0f);
+        return Bits.ofShare(table.size > 0 ? (float) inPlace / (float) table.size : 0.0f);
     }
 
     // ---- what if; nothing changes
@@ -289,8 +289,8 @@ public final class CutMarks {
         if (undoable == 0) {
             return NOT_POSSIBLE;
         }
-        nextRecord = nextRecord == 0 ? MOST_UNDO - 1 : nextRecord - 1;
-        history.bring(nextRecord, table);
+        nextKept = nextKept == 0 ? MOST_UNDO - 1 : nextKept - 1;
+        history.bring(nextKept, table);
         undoable--;
         return undoable;
     }
@@ -310,7 +310,7 @@ public final class CutMarks {
         if (!slots.isFull(slot)) {
             return NOT_POSSIBLE;
         }
-        record();
+        keepForUndo();
         slots.bring(slot, table);
         return table.markCount;
     }
@@ -318,9 +318,9 @@ public final class CutMarks {
     // ---- helpers
 
     /** Each change calls this once, when no error applies any more and nothing is different yet. */
-    private void record() {
-        history.keep(nextRecord, table);
-        nextRecord = nextRecord + 1 == MOST_UNDO ? 0 : nextRecord + 1;
+    private void keepForUndo() {
+        history.keep(nextKept, table);
+        nextKept = nextKept + 1 == MOST_UNDO ? 0 : nextKept + 1;
         if (undoable < MOST_UNDO) {
             undoable++;
         }
@@ -331,13 +331,13 @@ public final class CutMarks {
         if (table.markCount >= MOST_MARKS) {
             return TOO_MANY;
         }
-        record();
+        keepForUndo();
         return table.addMark(moves);
     }
 
     /** The deck is moved as a change: the card on top then. */
     private int moveDeck(long moves) {
-        record();
+        keepForUndo();
         table.places = Moves.then(table.places, moves);
         table.trick = Moves.then(table.trick, moves);
         return Moves.from(table.places, 0);
@@ -574,11 +574,12 @@ public final class CutMarks {
         }
     }
 
-    /** The bits of a double or float that is 0 or more; LANGUAGE.md leaves the library's own calls for it out. */
+    /** The bits of a number, as LANGUAGE.md leaves the library's own calls for them out. */
     private static final class Bits {
         private static final int DOUBLE_BIAS = 1023, DOUBLE_DIGITS = 52;
         private static final int FLOAT_BIAS = 127, FLOAT_DIGITS = 23;
 
+        /** Of a double of 0 or more. */
         static long ofDouble(double value) {
             if (!(value > 0.0)) {
                 return 0L;
@@ -597,16 +598,13 @@ public final class CutMarks {
             return (long) (exponent + DOUBLE_BIAS) << DOUBLE_DIGITS | digits;
         }
 
-        static int ofFloat(float value) {
+        /** Of a float from 0 to 1, as a share is. */
+        static int ofShare(float value) {
             if (!(value > 0.0f)) {
                 return 0;
             }
             float part = value;
             int exponent = 0;
-            while (part >= 2.0f && exponent < FLOAT_BIAS) {
-                part = part / 2.0f;
-                exponent++;
-            }
             while (part < 1.0f && exponent > 1 - FLOAT_BIAS) {
                 part = part * 2.0f;
                 exponent--;
