@@ -6,7 +6,7 @@ public final class CutMarks {
     private static final int LEAST_SIZE = 2, MOST_SIZE = 16, FIRST_SIZE = 8;
     private static final int MOST_MARKS = 6, MOST_UNDO = 6, SLOTS = 2, MOST_POWER = 999;
     private static final int PAD_LENGTH = 80, PUT_LENGTH = 8, LEAST_CODE = 33, MOST_CODE = 126;
-    private static final int STEPS = 4, MOST_STEPS = 5;
+    private static final int MOST_STEPS = 5;
 
     private final Table table = new Table();
     private final Shelf history = new Shelf(MOST_UNDO);
@@ -375,10 +375,7 @@ public final class CutMarks {
      * each two bits, the first one highest: so the lowest way also has the lowest first step.
      */
     private int lowestWay(int steps) {
-        int ways = 1;
-        for (int step = 0; step < steps; step++) {
-            ways = ways * STEPS;
-        }
+        int ways = 1 << 2 * steps;
         for (int way = 0; way < ways; way++) {
             if (ordersDeck(way, steps)) {
                 return way;
